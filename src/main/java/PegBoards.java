@@ -224,7 +224,7 @@ public final class PegBoards {
     }
 
     private static boolean contains(int position, int hole) {
-        return (position >> hole & 1) == 1;
+        return ((position >> hole) & 1) == 1;
     }
 
     private static int leastIn(int[] row, int length) {
@@ -358,7 +358,6 @@ public final class PegBoards {
             int[] rowSteps = board.isTriangular() ? TRIANGULAR_ROW_STEPS : SQUARE_ROW_STEPS;
             int[] columnSteps =
                     board.isTriangular() ? TRIANGULAR_COLUMN_STEPS : SQUARE_COLUMN_STEPS;
-            size = 0;
             for (int hole = 0; hole < board.holes(); hole++) {
                 for (int direction = 0; direction < rowSteps.length; direction++) {
                     listOne(board, hole, rowSteps[direction], columnSteps[direction]);
@@ -375,8 +374,8 @@ public final class PegBoards {
                 froms[size] = from;
                 overs[size] = over;
                 tos[size] = to;
-                pegs[size] = 1 << from | 1 << over;
-                touched[size] = pegs[size] | 1 << to;
+                pegs[size] = (1 << from) | (1 << over);
+                touched[size] = pegs[size] | (1 << to);
                 size++;
             }
         }
@@ -413,14 +412,12 @@ public final class PegBoards {
         private int size;
 
         void forget() {
-            holes = 0;
             size = 0;
         }
 
         void list(Board board) {
             int turns = board.isTriangular() ? 6 : 4;
             holes = board.holes();
-            size = 0;
             for (int k = 0; k < 2 * turns; k++) {
                 for (int hole = 0; hole < holes; hole++) {
                     turn(board, hole, k % turns);
@@ -543,9 +540,9 @@ public final class PegBoards {
 
         /** The slot that has the position, or the free one that it would get. */
         private int slotFor(int position) {
-            int slot = (position ^ position >> 10) & SLOTS - 1;
+            int slot = (position ^ (position >> 10)) & (SLOTS - 1);
             for (int step = 0; step < SLOTS && !isFreeOrHas(slot, position); step++) {
-                slot = slot + 1 & SLOTS - 1;
+                slot = (slot + 1) & (SLOTS - 1);
             }
             return slot;
         }
@@ -559,7 +556,9 @@ public final class PegBoards {
     private static final class Reaching {
         private final Found found = new Found();
         private final Found leasts = new Found();
+        /** Of each position but the start: the number of the one it comes from. */
         private final int[] cameFrom = new int[MOST_POSITIONS];
+        /** Of each position but the start: the jump by which it comes. */
         private final int[] cameBy = new int[MOST_POSITIONS];
         private final int[] fewest = new int[MOST_POSITIONS];
         /**
@@ -574,8 +573,6 @@ public final class PegBoards {
             found.forget();
             limitMet = false;
             found.numberWithin(limit, start);
-            cameFrom[0] = 0;
-            cameBy[0] = NONE;
             fewest[0] = 0;
             lastHoles[0] = 0;
             for (int i = 0; i < limit && i < found.size() && !limitMet; i++) {
@@ -699,7 +696,6 @@ public final class PegBoards {
         }
 
         boolean search(Jumps jumps, int holes, int start, int goal) {
-            Arrays.fill(tried, 0);
             if (!tryFrom(0, 0, jumps, holes, start, goal)) {
                 return false;
             }

@@ -11,6 +11,7 @@ public final class ReachingTest {
         firstFoundWay();
         jumpsOfOnePegAreOneMove();
         fewestMovesAreNotTheWay();
+        fewestMovesOfLaterRows();
         limitOfMoves();
         cornerTriangle();
         newStartIsReachedAnew();
@@ -113,7 +114,7 @@ public final class ReachingTest {
         // Round a corner, the same peg: over 1, then over 3.
         PegBoards corner = Boards.puzzle(Boards.frozen(false, "ooo", "  o", "  o"), 1 + 2 + 8, 16);
         CHECK.due("round a corner", 1, () -> corner.moves(500));
-        // Peg 4 goes over 3 into hole 2, and then peg 0 over 1 can not; another peg is needed.
+        // Peg 0 goes over 1 into hole 2, and then peg 3 jumps over it.
         PegBoards other = Boards.puzzle(Boards.frozen(false, "oooo"), 11, 2);
         CHECK.due("two pegs, two jumps", 2, () -> other.moves(500));
     }
@@ -130,6 +131,19 @@ public final class ReachingTest {
         }
         int seen = worse;
         CHECK.due("some way has more moves than the fewest", 1, () -> seen > 0 ? 1 : 0);
+    }
+
+    /** Positions that are come to first in more moves, then by another peg in fewer. */
+    private static void fewestMovesOfLaterRows() {
+        PegBoards block = Boards.puzzle(Boards.frozen(false, "oooo", "oooo", "oooo"), 607, 4);
+        CHECK.due("from 607 to 4: moves(500)", 4, () -> block.moves(500));
+        Boards.puzzle(block, 743, 512);
+        CHECK.due("from 743 to 512: moves(500)", 3, () -> block.moves(500));
+        PegBoards corner = Boards.puzzle(
+                Boards.frozen(true, "    o", "   oo", "  ooo", " oooo"), 375, 1);
+        CHECK.due("from 375 to 1: moves(500)", 4, () -> corner.moves(500));
+        corner.place(true, 64);
+        CHECK.due("from 375 to 64: moves(500)", 3, () -> corner.moves(500));
     }
 
     private static int waysWithMoreMoves(PegBoards x, int start) {

@@ -133,13 +133,16 @@ public final class WeightTest {
         two.place(false, 2);
         findIs("hole 0 is needed", 1, two);
         weightsAre("hole 0 is needed", two, 1, 0);
-        // Hole 2 counts for the goal, but needs 0 or 1; hole 1 counts for the start.
         PegBoards three = Boards.puzzle(Boards.frozen(false, "ooo"), 2, 4);
-        findIs("weights of 2 are tried", 1, three);
-        weightsAre("weights of 2 are tried", three, 1, 0, 1);
-        PegBoards heavy = Boards.puzzle(Boards.frozen(false, "ooo", "  o", "  o"), 2 + 8, 4);
-        findIs("a goal of weight 2", 1, heavy);
-        weightsAre("a goal of weight 2", heavy, 1, 0, 1, 0, 1);
+        findIs("the middle counts for the start", 1, three);
+        weightsAre("the middle counts for the start", three, 1, 0, 1);
+        // Hole 3 must weigh more than 0 and 1 together, and at most 1 and 2, which is at most 1.
+        PegBoards four = Boards.puzzle(Boards.frozen(false, "oooo"), 3, 8);
+        findIs("a weight of 2 is needed", 1, four);
+        weightsAre("a weight of 2 is needed", four, 0, 1, 1, 2);
+        PegBoards mirrored = Boards.puzzle(Boards.frozen(false, "oooo"), 12, 1);
+        findIs("a weight of 2 is needed in hole 0", 1, mirrored);
+        weightsAre("a weight of 2 is needed in hole 0", mirrored, 2, 1, 1, 0);
         PegBoards eight = Boards.puzzle(Boards.frozen(false, "o o o o", "", "o o o o"), 0, 1);
         findIs("eight holes", 1, eight);
         weightsAre("eight holes", eight, 1, 0, 0, 0, 0, 0, 0, 0);
@@ -157,6 +160,10 @@ public final class WeightTest {
         weightsAre("they stay still", x, 9, 8, 7, 6);
         PegBoards fresh = Boards.frozen(false, "oooo");
         findIs("empty start and goal", 0, fresh);
+        // Only weights like 0 1 1 2 3 would do.
+        PegBoards five = Boards.puzzle(Boards.frozen(false, "ooooo"), 7, 16);
+        findIs("a weight of 3 would be needed", 0, five);
+        weightsAre("a weight of 3 would be needed", five, 0, 0, 0, 0, 0);
     }
 
     private static void wrongBoardsForFind() {
