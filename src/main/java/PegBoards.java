@@ -427,9 +427,7 @@ public final class PegBoards {
                 }
                 moveBy(board.leastRow() - leastIn(imageRows, holes), imageRows);
                 moveBy(board.leastColumn() - leastIn(imageColumns, holes), imageColumns);
-                if (coversBoard(board)) {
-                    size++;
-                }
+                addIfSameHoles(board);
             }
         }
 
@@ -457,16 +455,16 @@ public final class PegBoards {
             }
         }
 
-        /** Whether the image has just the board's holes; if so, it stands as the next symmetry. */
-        private boolean coversBoard(Board board) {
+        /** An image of the holes has as many places as they are, so none may miss a hole. */
+        private void addIfSameHoles(Board board) {
             for (int hole = 0; hole < holes; hole++) {
                 int image = board.numberAt(imageRows[hole], imageColumns[hole]);
-                if (image == NONE) {
-                    return false;
+                if (image == NONE || size >= MOST_IMAGES) {
+                    return;
                 }
                 taken[size][hole] = image;
             }
-            return true;
+            size++;
         }
 
         int size() {
