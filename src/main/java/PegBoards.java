@@ -601,7 +601,6 @@ public final class PegBoards {
             cameFrom[number] = from;
             cameBy[number] = jump;
             fewest[number] = Integer.MAX_VALUE;
-            lastHoles[number] = 0;
         }
 
         /**

@@ -9,6 +9,22 @@ final class Check {
 
     private int checks;
     private int wrong;
+    private String sentence = "";
+    private int checksBefore;
+
+    /** What comes from here on is the test of this sentence of the document. */
+    void sentence(String words) {
+        sentenceWasTested();
+        sentence = words;
+        checksBefore = checks;
+    }
+
+    private void sentenceWasTested() {
+        if (!sentence.isEmpty() && checks == checksBefore) {
+            wrong++;
+            System.out.println("'" + sentence + "' has no test");
+        }
+    }
 
     static String answer(LongSupplier call) {
         try {
@@ -44,11 +60,13 @@ final class Check {
         checks++;
         if (!want.equals(got)) {
             wrong++;
-            System.out.println(call + " answered " + got + ", due is " + want);
+            String of = sentence.isEmpty() ? "" : "'" + sentence + "': ";
+            System.out.println(of + call + " answered " + got + ", due is " + want);
         }
     }
 
     void end() {
+        sentenceWasTested();
         System.out.println(checks + " answers, " + wrong + " of them not as due");
         if (wrong != 0) {
             System.exit(1);
