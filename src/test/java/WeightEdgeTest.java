@@ -302,10 +302,12 @@ public final class WeightEdgeTest {
         Boards.draw(x, "ooo", "", "o o");
         x.freeze();
         weightsAre(x, 0, 0, 0, 0, 0);
-        Boards.puzzle(x, 0, 8);
-        findIs(1, x);
-        weightsAre(x, 0, 0, 0, 1, 0);
-        CHECK.due("weights(0)", 1, () -> x.weights(0));
+        for (int hole = 3; hole < 5; hole++) {
+            Boards.puzzle(x, 0, 1 << hole);
+            findIs(1, x);
+            weightsAre(x, 0, 0, 0, hole == 3 ? 1 : 0, hole == 4 ? 1 : 0);
+            CHECK.due("weights(0)", 1, () -> x.weights(0));
+        }
     }
 
     private static void findThrows(String when, PegBoards x) {
