@@ -14,6 +14,8 @@ public final class PegBoards {
     private static final int MOST_JUMPS = 6 * MOST_HOLES;
     private static final int MOST_IMAGES = 12;
     private static final int MOST_POSITIONS = 500;
+    /** Each move takes a peg away at least, and the last peg stays. */
+    private static final int TOO_MANY_MOVES = MOST_HOLES;
     private static final int MOST_WEIGHT = 60;
     private static final int MOST_HOLES_TO_TRY = 8;
     private static final int MOST_WEIGHT_TO_TRY = 2;
@@ -600,7 +602,7 @@ public final class PegBoards {
         private void enter(int number, int from, int jump) {
             cameFrom[number] = from;
             cameBy[number] = jump;
-            fewest[number] = Integer.MAX_VALUE;
+            fewest[number] = TOO_MANY_MOVES;
         }
 
         /**

@@ -54,8 +54,12 @@ public final class ModelTest {
         int r0 = below(9 - height);
         int c0 = below(9 - width);
         int gaps = below(3);
+        // Without corners at two ends a block is a triangle or hexagon of the triangular grid.
+        int fewest = below(3) == 0 ? 1 + below(3) : 0;
+        int most = below(3) == 0 ? height + width - 2 - fewest : height + width;
         for (int i = 0; i < height * width; i++) {
-            if (gaps == 0 || below(8) >= gaps) {
+            int diagonal = i / width + i % width;
+            if (diagonal >= fewest && diagonal <= most && (gaps == 0 || below(8) >= gaps)) {
                 call("hole", r0 + i / width, c0 + i % width);
             }
         }
@@ -160,7 +164,8 @@ public final class ModelTest {
             "count -2", "count 1", "count 40", "count n", "solve 0", "solve 1", "solve -2",
             "way -1", "way 0", "way 30", "moves 0", "moves 1", "moves 2", "moves 3", "moves 4",
             "moves 5", "moves -1", "moves -2", "classes 9", "classes -2", "symmetries 0",
-            "symmetries 1", "symmetries 2", "symmetries 4", "symmetries 8", "image 4",
+            "symmetries 1", "symmetries 2", "symmetries 4", "symmetries 6", "symmetries 8",
+            "symmetries 12", "image 4",
             "image throws.IndexOutOfBoundsException", "least n",
             "least throws.IllegalStateException", "least throws.IllegalArgumentException",
             "parity -1", "parity 15", "parity throws.IllegalArgumentException",

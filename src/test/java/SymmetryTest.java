@@ -5,6 +5,7 @@ public final class SymmetryTest {
     public static void main(String[] args) {
         notFrozen();
         numbersOfSymmetries();
+        turnsWithoutMirrors();
         squareImages();
         squareImagesInOrder();
         triangularImages();
@@ -50,6 +51,22 @@ public final class SymmetryTest {
         symmetriesAre(4, true, "oooo", "oooo", "oooo", "oooo");
         symmetriesAre(2, true, "ooooo", "ooooo", "ooooo", "ooooo");
         symmetriesAre(1, true, "oooo", "o");
+    }
+
+    /** Boards that turns alone leave as they are, so that no mirrored image is a symmetry. */
+    private static void turnsWithoutMirrors() {
+        imagesAre(Boards.frozen(false, " o", "   o", "o", "  o"), new int[][] {
+            {0, 1, 2, 3}, {1, 3, 0, 2}, {3, 2, 1, 0}, {2, 0, 3, 1},
+        });
+        // Six holes round (3, 3), from (5, 4) on: 4, 5, 3, 1, 0, 2.
+        imagesAre(Boards.frozen(true, "     o", "  o", "      o", "", "o", "    o", " o"),
+                new int[][] {
+                    {0, 1, 2, 3, 4, 5}, {2, 0, 4, 1, 5, 3}, {4, 2, 5, 0, 3, 1},
+                    {5, 4, 3, 2, 1, 0}, {3, 5, 1, 4, 0, 2}, {1, 3, 0, 5, 2, 4},
+                });
+        // Each second one of them: the images 0, 2 and 4.
+        imagesAre(Boards.frozen(true, "     o", "", "", "", "o", "    o"),
+                new int[][] {{0, 1, 2}, {2, 0, 1}, {1, 2, 0}});
     }
 
     private static void squareImages() {
